@@ -9,6 +9,9 @@ public final class BoundaryTest {
     private static final int MIN = Integer.MIN_VALUE;
     private static final int MAX = Integer.MAX_VALUE;
 
+    /** No call has this answer: it stands for none. */
+    private static final int THREW = -999_999_999;
+
     private static final int[] NOT_0_TO_7 = {MIN, MIN + 1, -8, -1, 8, 9, 15, 256, MAX - 1, MAX};
     private static final int[] NOT_0_TO_127 = {MIN, MIN + 1, -128, -1, 128, 129, 255, 256, MAX - 1, MAX};
     private static final int[] NOT_1000 = {MIN, MIN + 1, -1002, -1001, 1001, 1002, MAX - 1, MAX};
@@ -230,12 +233,7 @@ public final class BoundaryTest {
     }
 
     private static int doesThrow(ToIntFunction<SiteSwaps> call, int[] row) {
-        try {
-            call.applyAsInt(Check.withPattern(row));
-            return 0;
-        } catch (RuntimeException thrown) {
-            return 1;
-        }
+        return answer(call, Check.withPattern(row)) == THREW ? 1 : 0;
     }
 
     /** Promise 1: "The pattern is one throw of height 3." */
@@ -787,11 +785,22 @@ public final class BoundaryTest {
         dueChange(call, due, made, row, row);
     }
 
+    /** The pattern is read, and ranked too: a rank can tell of something left behind that no height shows. */
     private static void dueChange(String call, int due, ToIntFunction<SiteSwaps> made, int[] after, int... before) {
         String what = Arrays.toString(before) + " " + call;
         SiteSwaps x = Check.withPattern(before);
-        due(what, made.applyAsInt(x), due);
+        due(what, answer(made, x), due);
         duePattern(what + ", the pattern after it", x, after);
+        due(what + ", rank() after it", x.rank(), Check.withPattern(after).rank());
+    }
+
+    /** A call that throws must not keep the other sentences from being tested. */
+    private static int answer(ToIntFunction<SiteSwaps> made, SiteSwaps x) {
+        try {
+            return made.applyAsInt(x);
+        } catch (RuntimeException thrown) {
+            return THREW;
+        }
     }
 
     private static void due(String what, int got, int want) {

@@ -20,7 +20,7 @@ public final class SiteSwaps {
     // orders patterns.
     private int pattern;
 
-    // Always 1 to MOST_THROWS: it divides.
+    // Always 1 to MOST_THROWS.
     private int throwCount;
 
     private final int[] distance = new int[SETS];
@@ -229,7 +229,12 @@ public final class SiteSwaps {
         return s >= 0 && s < SETS;
     }
 
+    // No call leaves fewer than one throw; the divisor is looked at all the same,
+    // so that nobody has to know that to see that no division fails.
     private int throwAt(int beat) {
+        if (throwCount < 1) {
+            return 0;
+        }
         int remainder = beat % throwCount;
         return remainder < 0 ? remainder + throwCount : remainder;
     }
@@ -274,13 +279,19 @@ public final class SiteSwaps {
         return sum;
     }
 
-    // A throw keeps its ball in the air for height beats, and every ball is in
-    // the air all the time: one row's heights add up to balls * throwCount.
+    // Before any beat there are as many, so beat 0 is as good as another one.
     private int ballsOfPattern() {
-        return heightSum(pattern) / throwCount;
+        int inAir = stateBefore(0);
+        int found = 0;
+        for (int k = 0; k < MOST_HEIGHT; k++) {
+            found += (inAir >> k) & 1;
+        }
+        return found;
     }
 
-    // The sum is asked first: it is the cheaper question and sorts out most rows.
+    // A throw keeps its ball in the air for height beats, and every ball is in
+    // the air all the time: the heights of a jugglable row with b balls add up to
+    // b * throwCount. That is the cheaper question and sorts out most rows.
     private boolean isJugglableWith(int row, int b) {
         return heightSum(row) == b * throwCount && landsApart(row);
     }

@@ -5,7 +5,7 @@ import java.util.Map;
 import java.util.Set;
 import java.util.TreeSet;
 
-/** The document's words played through beat by beat, in ways that the program does not use. */
+/** The document's words played through beat by beat, over many more beats than the program looks at. */
 final class Model {
     private static final int BAD_ARG = -1;
     private static final int FULL = -2;

@@ -5,6 +5,8 @@ public final class ModelTest {
     private static final int MOST_CALLS = 512;
     private static final int[] ODD_NUMBERS = {Integer.MIN_VALUE, -1001, -2, -1, 6, 7, 8, 9, 127, 128, 1001, Integer.MAX_VALUE};
 
+    private static final int[][] ONE_OF_EACH_LENGTH = {{3}, {5, 1}, {5, 3, 1}, {7, 5, 3, 1}, {6, 2, 5, 1, 6}};
+
     /** Fixed, so that every run of this test makes the same calls. */
     private static long seed = 20261115;
 
@@ -19,8 +21,12 @@ public final class ModelTest {
             }
             loadAll(n);
         }
+        for (int[] row : ONE_OF_EACH_LENGTH) {
+            askStatesBeforeAllBeats(row);
+        }
         stepBetweenAll();
         for (int run = 0; run < 300; run++) {
+            walkAndRead(run);
             walk(run);
         }
         Check.end();
@@ -73,6 +79,13 @@ public final class ModelTest {
         }
     }
 
+    private static void askStatesBeforeAllBeats(int[] row) {
+        Model model = new Model(row);
+        for (int t = -1001; t <= 1001; t++) {
+            Check.due(Arrays.toString(row) + " state(" + t + ")", Check.withPattern(row).state(t), model.state(t));
+        }
+    }
+
     private static void stepBetweenAll() {
         Model model = new Model(3);
         for (int a = -1; a <= 128; a++) {
@@ -83,19 +96,33 @@ public final class ModelTest {
         }
     }
 
-    /** A run on one object, as long as the document allows. */
-    private static void walk(int run) {
+    /** A run on one object, as long as the document allows, with the pattern read after each call. */
+    private static void walkAndRead(int run) {
         SiteSwaps x = new SiteSwaps();
         Model model = new Model(3);
         int callsOfOneTurn = 1 + 6;
         for (int made = 0; made + callsOfOneTurn <= MOST_CALLS; made += callsOfOneTurn) {
-            int call = next(21);
-            int a = argument();
-            int b = argument();
-            String name = "walk " + run + " after " + made + " calls: call " + call + " (" + a + ", " + b + ")";
-            Check.due(name, ofProgram(x, call, a, b), ofModel(model, call, a, b));
+            String name = "walk with reading " + run + " after at most " + made + " calls";
+            takeOneCall(name, x, model);
             duePattern(name, x, model);
         }
+    }
+
+    /** A run of 512 calls on one object, each chosen without regard to the ones before. */
+    private static void walk(int run) {
+        SiteSwaps x = new SiteSwaps();
+        Model model = new Model(3);
+        for (int made = 0; made < MOST_CALLS; made++) {
+            takeOneCall("walk " + run + " after " + made + " calls", x, model);
+        }
+    }
+
+    private static void takeOneCall(String where, SiteSwaps x, Model model) {
+        int call = next(21);
+        int a = argument();
+        int b = argument();
+        String name = where + ": call " + call + " (" + a + ", " + b + ")";
+        Check.due(name, ofProgram(x, call, a, b), ofModel(model, call, a, b));
     }
 
     private static int ofProgram(SiteSwaps x, int call, int a, int b) {
